@@ -1117,7 +1117,11 @@ public final class BellYards {
         }
 
         int bellOf(int u) {
-            int figure = (int) (worth / FIGURES[u] % BASE);
+            long rest = worth;
+            for (int k = MOST_UNNAMED - 1; k > u; k--) {
+                rest /= BASE;
+            }
+            int figure = (int) (rest % BASE);
             return figure == BASE - 1 ? NONE : figure;
         }
     }
