@@ -800,7 +800,7 @@ public final class BellYardsModel {
 
         /** Mostly from least to most, now and then just beside or far off. */
         int some(int least, int most) {
-            int kind = chance.nextInt(40);
+            int kind = chance.nextInt(100);
             if (kind == 0) {
                 return least - 1;
             }
@@ -837,6 +837,12 @@ public final class BellYardsModel {
             return kind == 0 ? some(0, 9999) : kind == 1 ? -1 : 1000 + 100 * chance.nextInt(14) + chance.nextInt(25);
         }
 
+        /** Tones that are near to one another, so that unnamed ones could be several bells. */
+        int narrowTone() {
+            int kind = chance.nextInt(12);
+            return kind == 0 ? some(0, 9999) : kind < 4 ? -1 : 500 + chance.nextInt(60);
+        }
+
         int week() {
             return chance.nextInt(4) == 0 ? some(0, 199) : some(0, Math.max(1, m.week));
         }
@@ -847,8 +853,14 @@ public final class BellYardsModel {
 
         void go() {
             int calls = 50 + chance.nextInt(CALLS);
-            for (int p = 0; p < 3; p++) {
-                parishes();
+            if (number % 3 == 0) {
+                for (int p = 0; p < 3; p++) {
+                    parishes();
+                }
+            } else if (number % 3 == 1) {
+                fullYard();
+            } else {
+                fullTowers();
             }
             for (int c = 0; c < calls && wrong == 0; c++) {
                 switch (chance.nextInt(9)) {
@@ -864,6 +876,72 @@ public final class BellYardsModel {
                 }
             }
             same("digest()", x.digest(), m.digest());
+        }
+
+        void firstBells(int parishes, int bells) {
+            for (int p = 0; p < parishes; p++) {
+                int land = chance.nextInt(4);
+                m.lands.add(land);
+                same("parish(" + land + ")", x.parish(land), p);
+            }
+            for (int b = 0; b < bells; b++) {
+                int p = chance.nextInt(parishes);
+                int w = 100 + 50 * chance.nextInt(4);
+                int y = year();
+                int t = 10 * chance.nextInt(4);
+                same("bell(" + p + ", " + w + ", " + y + ", " + t + ")", x.bell(p, w, y, t), m.bell(p, w, y, t));
+            }
+        }
+
+        void firstTone(int b, int k, int v) {
+            same("tone(" + b + ", " + k + ", " + v + ")", x.tone(b, k, v), m.tone(b, k, v));
+        }
+
+        /** Many bells in yards that many unnamed ones could be. */
+        void fullYard() {
+            int bells = number % 150 == 1 ? 20 : 6 + chance.nextInt(6);
+            firstBells(2, bells);
+            for (int b = 0; b < bells; b++) {
+                for (int k = 0; k < 5; k++) {
+                    firstTone(b, k, chance.nextInt(3) == 0 ? -1 : 500 + chance.nextInt(chance.nextBoolean() ? 60 : 6));
+                }
+                if (chance.nextInt(8) > 0) {
+                    same("become(" + b + ", 2)", x.become(b, 2), m.become(b, 2));
+                    same("become(" + b + ", 3)", x.become(b, 3), m.become(b, 3));
+                }
+            }
+            int ones = 1 + chance.nextInt(8);
+            for (int u = 0; u < ones; u++) {
+                same("sheet(0, 2, 5)", x.sheet(0, 2, 5), m.sheet(0, 2, 5));
+                for (int k = 0; k < 5; k++) {
+                    int v = chance.nextInt(2) == 0 ? -1 : 500 + chance.nextInt(60);
+                    same("put(0, 2, " + k + ", " + v + ")", x.put(0, 2, k, v), m.put(0, 2, k, v));
+                }
+                int e = chance.nextInt(60);
+                int w = chance.nextInt(3) == 0 ? -1 : 100 + 50 * chance.nextInt(4);
+                int d = 50 * chance.nextInt(4);
+                same("find(0, " + e + ", " + w + ", " + d + ")", x.find(0, e, w, d), m.find(0, e, w, d));
+            }
+        }
+
+        /** Peals of many bells, some of them whole or nearly so. */
+        void fullTowers() {
+            int bells = 6 + chance.nextInt(12);
+            firstBells(1 + chance.nextInt(3), bells);
+            int scale = 1 | 1 << chance.nextInt(12) | 1 << chance.nextInt(12);
+            same("tune(1, " + scale + ")", x.tune(1, scale), m.scale);
+            m.scale = scale;
+            for (int b = 0; b < bells; b++) {
+                int k = chance.nextInt(12);
+                while (chance.nextInt(12) > 0 && (scale >> k & 1) == 0) {
+                    k = chance.nextInt(12);
+                }
+                int off = chance.nextInt(5) == 0 ? chance.nextInt(100) : chance.nextInt(20);
+                firstTone(b, 4, 3000 + 1200 * chance.nextInt(3) + 100 * k + off);
+                if (chance.nextInt(4) == 0) {
+                    same("become(" + b + ", 2)", x.become(b, 2), m.become(b, 2));
+                }
+            }
         }
 
         void parishes() {
@@ -906,7 +984,7 @@ public final class BellYardsModel {
             switch (chance.nextInt(8)) {
                 case 0: case 1: {
                     int k = chance.nextInt(3) == 0 ? 4 : some(0, 4);
-                    int v = toneValue();
+                    int v = k == 4 ? toneValue() : narrowTone();
                     same("tone(" + b + ", " + k + ", " + v + ")", x.tone(b, k, v), m.tone(b, k, v));
                     break;
                 }
@@ -1004,7 +1082,7 @@ public final class BellYardsModel {
                         int form = 1 + chance.nextInt(2);
                         same("sheet(" + s + ", " + form + ", 5)", x.sheet(s, form, 5), m.sheet(s, form, 5));
                         for (int k = 0; k < 5; k++) {
-                            int v = chance.nextBoolean() ? -1 : toneValue();
+                            int v = chance.nextBoolean() ? -1 : k == 4 ? toneValue() : narrowTone();
                             same("put(" + s + ", " + form + ", " + k + ", " + v + ")", x.put(s, form, k, v),
                                 m.put(s, form, k, v));
                         }
@@ -1119,6 +1197,7 @@ public final class BellYardsModel {
                 }
                 case 4: {
                     int p = parish();
+                    b = chance.nextBoolean() ? 0 : b;
                     int proof = some(0, 4);
                     boolean well = m.isParish(p) && m.isBell(b) && m.in(proof, 0, 4) && m.in(at, 0, 199);
                     int want = !well ? -2 : m.claims.size() == 30 ? -4 : m.claims.size() + 1;
@@ -1139,7 +1218,7 @@ public final class BellYardsModel {
                     same("rank(" + proof + ", " + r + ")", x.rank(proof, r), want);
                     break;
                 }
-                case 6: same("whose(" + b + ", " + at + ")", x.whose(b, at), m.whose(b, at)); break;
+                case 6: b = chance.nextBoolean() ? 0 : b; same("whose(" + b + ", " + at + ")", x.whose(b, at), m.whose(b, at)); break;
                 default: same("lands(" + b + ", " + at + ")", x.lands(b, at), m.landsOf(b, at)); break;
             }
         }

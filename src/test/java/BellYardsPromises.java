@@ -465,6 +465,40 @@ public final class BellYardsPromises {
         due("22: has all", x.next(3), -1);
         x.find(0, 0, 100, 0);
         due("22: could be one", x.next(4), -1);
+        partsByTone();
+    }
+
+    private static void partsByTone() {
+        BellYards x = withBells(4);
+        for (int b = 0; b < 4; b++) {
+            toYard(x, b);
+        }
+        fillSheet(x, 0, -1, -1, -1, -1, -1);
+        x.find(0, 5, 150, 50);
+        x.tone(0, 1, 10);
+        x.tone(1, 1, 11);
+        due("22: 10 and 11 are two parts by 11", x.next(0), 1);
+        x.tone(1, 1, 21);
+        x.tone(0, 1, 11);
+        due("22: 11 and 21 are one part by 11", x.next(0), 0);
+        x.forget();
+        x.find(0, 5, -1, 0);
+        x.tone(0, 1, 50);
+        x.tone(1, 1, 50);
+        for (int b = 0; b < 4; b++) {
+            x.tone(b, 3, 11 * b);
+        }
+        due("22: four parts before two", x.next(0), 3);
+        x.tone(0, 2, 5);
+        due("22: not the one of three not known", x.next(0), 3);
+        x.tone(3, 3, 22);
+        x.tone(1, 3, 22);
+        due("22: two and two before three", x.next(0), 1);
+        x.forget();
+        x.find(0, 0, -1, 0);
+        x.tone(3, 3, 23);
+        x.tone(1, 3, 24);
+        due("22: e 0 tells all apart", x.next(0), 3);
     }
 
     private static void laying() {
@@ -586,6 +620,11 @@ public final class BellYardsPromises {
         x.become(1, 2);
         due("26: the heavier fill", x.peal(0, 5), 4);
         due("26: fill where none rings", withState(2).peal(0, 5), -1);
+        due("25: scale 0", x.tune(1, 0), 9);
+        due("26: a scale of none, and one rings", x.peal(0, 4), 0);
+        x.become(0, 1);
+        due("26: a scale of none, and none rings", x.peal(0, 4), 0);
+        due("25: the scale was 0", x.tune(1, 1), 0);
     }
 
     private static void steps() {
@@ -709,6 +748,31 @@ public final class BellYardsPromises {
         due("31: not the last", y.melts(0, 2), -1);
         typeAll(y, "a=1902,1");
         due("31: the least letter", y.melts(0, 2), 0);
+        allMelted();
+    }
+
+    private static void allMelted() {
+        BellYards x = withBells(20);
+        for (int b = 0; b < 20; b++) {
+            x.become(b, 2);
+        }
+        fillSheet(x, 0, 21000, 0);
+        due("32: just enough", x.shorts(0, 0), 0);
+        fillSheet(x, 0, 21001, 5);
+        due("32: short by one, then by all", x.shorts(0, 0), 6);
+        due("32: all are melted", x.shorts(0, 2), 20);
+        x.sheet(0, 2, 60);
+        for (int i = 0; i < 60; i++) {
+            x.put(0, 2, i, 350);
+        }
+        due("32: sixty weeks are met", x.shorts(0, 1), -1);
+        due("32: all are melted for them", x.shorts(0, 2), 20);
+        x.put(0, 2, 59, 351);
+        due("32: the last of sixty weeks", x.shorts(0, 1), 59);
+        due("31: the lightest", x.melts(0, 0), 59);
+        x.sheet(0, 0, 60);
+        x.put(0, 0, 59, -1);
+        due("32: bytes below 0", x.shorts(0, 2), 0);
     }
 
     private static void sending() {
