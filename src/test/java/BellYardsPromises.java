@@ -760,6 +760,7 @@ public final class BellYardsPromises {
         due("32: just enough", x.shorts(0, 0), 0);
         fillSheet(x, 0, 21001, 5);
         due("32: short by one, then by all", x.shorts(0, 0), 6);
+        due("32: short as soon as all are melted", x.shorts(0, 1), 0);
         due("32: all are melted", x.shorts(0, 2), 20);
         x.sheet(0, 2, 60);
         for (int i = 0; i < 60; i++) {
