@@ -48,6 +48,7 @@ public final class BellYardsEdgesBatches extends Edge {
         whoseQuarrel();
         landsLimits();
         landsCounted();
+        questionsChangeNothing();
         end();
     }
 
@@ -561,6 +562,8 @@ public final class BellYardsEdgesBatches extends Edge {
     private static void sentMost() {
         int[] weights = {9000, 1, 1};
         sentAre("two light ones before one heavy", sending(weights, new int[] {10, 5, 5}, new int[] {10, 10, 10}), 6, 2);
+        sentAre("behind two light ones", sending(new int[] {1, 1, 9000}, new int[] {5, 5, 10}, new int[] {10, 10, 10}), 3, 2);
+        sentAre("between them", sending(new int[] {1, 9000, 1}, new int[] {5, 10, 5}, new int[] {10, 10, 10}), 5, 2);
         sentAre("one fits beside it", sending(weights, new int[] {5, 5, 5}, new int[] {10, 10, 10}), 3, 9001);
         sentAre("all three", sending(weights, new int[] {5, 5, 5}, new int[] {15, 10, 10}), 7, 9002);
     }
@@ -748,5 +751,17 @@ public final class BellYardsEdgesBatches extends Edge {
         BellYards same = claimed(new int[] {0, 0, 1, 0}, new int[] {1, 0, 1, 0});
         due("38: a QUARREL within one LAND", same.lands(0, 0), 1);
         due("37: is a QUARREL", same.whose(0, 0), -1);
+    }
+
+    private static void questionsChangeNothing() {
+        for (Make make : new Make[] {SOME, ALL}) {
+            asks("29: sets", make, x -> x.sets(0, 1));
+            asks("30: held", make, x -> x.held(0, 3));
+            asks("31: melts", make, x -> x.melts(2, 3));
+            asks("32: shorts", make, x -> x.shorts(2, 0));
+            asks("34: sent", make, x -> x.sent(0));
+            asks("37: whose", make, x -> x.whose(3, 5));
+            asks("38: lands", make, x -> x.lands(3, 5));
+        }
     }
 }

@@ -31,6 +31,7 @@ public final class BellYardsEdgesBells extends Edge {
         becomeOrder();
         wasLimits();
         wasLatestChange();
+        questionsChangeNothing();
         end();
     }
 
@@ -440,6 +441,7 @@ public final class BellYardsEdgesBells extends Edge {
         due("9: sixteen", x.about(0, 6), 16);
         refused("9: a seventeenth to HIDDEN", changed(16), y -> y.become(0, HIDDEN), FULL);
         refused("9: a seventeenth to TAKEN", changed(16), y -> y.become(0, TAKEN), FULL);
+        refused("9: a seventeenth in a later WEEK", after(changed(16), y -> y.pass(3)), y -> y.become(0, TAKEN), FULL);
         due("9: sixteen of this BELL alone", changed(16).made().become(1, HIDDEN), HANGS);
         Make hidden = after(changed(15), y -> y.become(0, TAKEN));
         due("9: the sixteenth to TAKEN", hidden.made().about(0, 4), TAKEN);
@@ -496,5 +498,12 @@ public final class BellYardsEdgesBells extends Edge {
         y.become(0, MELTED);
         due("10: the later of week 0", y.was(0, 0), IN_YARD);
         due("10: and of week 1", y.was(0, 1), MELTED);
+    }
+
+    private static void questionsChangeNothing() {
+        for (Make make : new Make[] {SOME, ALL}) {
+            asks("8: about", make, x -> x.about(3, 4));
+            asks("10: was", make, x -> x.was(3, 2));
+        }
     }
 }

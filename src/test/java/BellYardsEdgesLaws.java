@@ -32,6 +32,7 @@ public final class BellYardsEdgesLaws extends Edge {
         listLimits();
         gainedLimits();
         gainedSums();
+        questionsChangeNothing();
         end();
     }
 
@@ -501,5 +502,15 @@ public final class BellYardsEdgesLaws extends Edge {
         due("18: no more LISTED", x.gained(0, 199), 19 * 9999 * 3);
         x.parish(0);
         due("18: of the other parish", x.gained(1, 199), 0);
+    }
+
+    private static void questionsChangeNothing() {
+        for (Make make : new Make[] {SOME, ALL}) {
+            asks("13: fault", make, x -> x.fault());
+            asks("14: letter", make, x -> x.letter(3, 2));
+            asks("15: why", make, x -> x.why(3, 199));
+            asks("16: kept", make, x -> x.kept(1, 2));
+            asks("18: gained", make, x -> x.gained(1, 199));
+        }
     }
 }

@@ -32,6 +32,7 @@ public final class BellYardsEdgesSheets extends Edge {
         digestOfEach();
         digestWraps();
         digestLeavesOut();
+        questionsChangeNothing();
         end();
     }
 
@@ -507,5 +508,16 @@ public final class BellYardsEdgesSheets extends Edge {
         due("46: items", after(SOME, x -> x.put(0, 0, 0, 9)).made().digest(), before);
         due("46: RANKS", after(SOME, x -> x.rank(0, 9)).made().digest(), before);
         due("46: but not what is MISSING", after(SOME, x -> x.tune(1, 1)).made().digest() == before ? 1 : 0, 0);
+    }
+
+    private static void questionsChangeNothing() {
+        for (Make make : new Make[] {SOME, ALL}) {
+            asks("42: get", make, x -> x.get(2, 2, 0));
+            asks("46: digest", make, x -> x.digest());
+            for (int what = 0; what <= 9; what++) {
+                int of = what;
+                asks("45: count(" + what + ")", make, x -> x.count(of));
+            }
+        }
     }
 }

@@ -37,10 +37,12 @@ public final class BellYardsEdgesUnnamed extends Edge {
         pealWhole();
         pealFill();
         pealFillWhich();
+        pealOfOneParish();
         stepLimits();
         stepWithin();
         stepModulo();
         stepNone();
+        questionsChangeNothing();
         end();
     }
 
@@ -198,7 +200,8 @@ public final class BellYardsEdgesUnnamed extends Edge {
     private static void couldTones() {
         for (int t = 0; t <= 4; t++) {
             for (int e : new int[] {0, 1, 50, 98, 99}) {
-                due("21: e just above", apart(t, 500, 500 + e, e), 1);
+                due("21: not apart", apart(t, 500, 500, e), 1);
+            due("21: e just above", apart(t, 500, 500 + e, e), 1);
                 due("21: e just below", apart(t, 500, 500 - e, e), 1);
                 due("21: more above", apart(t, 500, 500 + e + 1, e), 0);
                 due("21: more below", apart(t, 500, 500 - e - 1, e), 0);
@@ -236,6 +239,10 @@ public final class BellYardsEdgesUnnamed extends Edge {
             due("21: w just below", weighed(2000, 2000 - w, w), 1);
             due("21: more above", weighed(2000, 2001 + w, w), 0);
             due("21: more below", weighed(2000, 1999 - w, w), 0);
+        }
+        for (int apart : new int[] {0, 1, 9}) {
+            due("21: within above", weighed(2000, 2000 + apart, 10), 1);
+            due("21: within below", weighed(2000, 2000 - apart, 10), 1);
         }
         due("21: not weighed, the least", weighed(1, NONE, 0), 1);
         due("21: not weighed, the greatest", weighed(9999, NONE, 999), 1);
@@ -391,6 +398,25 @@ public final class BellYardsEdgesUnnamed extends Edge {
         BellYards y = unmeasured(2, 99);
         y.tone(0, 3, 0);
         due("22: 0 and not known are two parts", y.next(0), 3);
+        nextOfThoseItCouldBe();
+    }
+
+    /** "those it COULD BE": what tones the others have is no matter, before these or behind them. */
+    private static void nextOfThoseItCouldBe() {
+        BellYards x = yard(100, 500, 110, 500, 500);
+        fill(x, 0, 2, -1, -1, -1, -1, -1);
+        x.find(0, 0, 105, 5);
+        for (int b : new int[] {1, 3, 4}) {
+            x.tone(b, 2, b);
+            for (int t : new int[] {0, 1, 3, 4}) {
+                x.tone(b, t, 7);
+            }
+        }
+        x.tone(0, 3, 7);
+        x.tone(2, 3, 8);
+        due("22: apart, though three others are alike", x.next(0), 3);
+        x.tone(2, 3, 7);
+        due("22: alike, though three others are apart", x.next(0), 0);
     }
 
     // ---- promises 23, 24: "THE LAYING: 0 how many are laid, 1 the differences. BAD.", "The BELL that an
@@ -735,6 +761,30 @@ public final class BellYardsEdgesUnnamed extends Edge {
         x.tone(5, 4, 1201);
         x.become(5, 2);
         due("26: heavier than GROUND", x.peal(0, 5), 5);
+        BellYards y = tuned(1100, 1100, 1000);
+        y.tune(1, 3);
+        y.become(0, 2);
+        due("26: its STEP is rung by another", y.peal(0, 5), NONE);
+        y.become(1, 2);
+        due("26: the first and the heaviest", y.peal(0, 5), 0);
+        y.become(0, 3);
+        y.become(0, 4);
+        due("26: the lighter one behind it", y.peal(0, 5), 1);
+    }
+
+    /** "Of a PARISH's PEAL": the BELLS of other PARISHES are no matter. */
+    private static void pealOfOneParish() {
+        BellYards x = tuned(1000, 1400);
+        x.parish(0);
+        x.tune(1, 1 | 16 | 128);
+        x.bell(1, 9999, 1800, 20);
+        x.tone(2, 4, 1700);
+        pealIs("another has the STEP", x, 0, 2, 0, 0, 128, 0, NONE);
+        x.tone(2, 4, 1050);
+        pealIs("another would be OUT", x, 0, 2, 0, 0, 128, 0, NONE);
+        x.tune(1, 1 | 16);
+        pealIs("WHOLE without it", x, 0, 2, 0, 0, 0, 1, NONE);
+        pealIs("the other PEAL", x, 1, 1, 2, 0, 16, 0, NONE);
     }
 
     // ---- promise 27: "STEP of a BELL in the PEAL of a PARISH (whether it RINGS there or not); NONE: it is OUT,
@@ -810,5 +860,16 @@ public final class BellYardsEdgesUnnamed extends Edge {
         due("27: none RINGS there any more", x.step(1, 0), NONE);
         x.become(0, 2);
         due("27: nor here", x.step(0, 0), NONE);
+    }
+
+    private static void questionsChangeNothing() {
+        for (Make make : new Make[] {SOME, ALL}) {
+            asks("21: could", make, x -> x.could(1));
+            asks("22: next", make, x -> x.next(0));
+            asks("23: laying", make, x -> x.laying(1));
+            asks("24: laid", make, x -> x.laid(1));
+            asks("26: peal", make, x -> x.peal(0, 5));
+            asks("27: step", make, x -> x.step(0, 3));
+        }
     }
 }

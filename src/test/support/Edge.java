@@ -106,6 +106,13 @@ public class Edge {
         }
     }
 
+    /** A question: however often it is put, it changes nothing. */
+    protected static void asks(String what, Make make, Call question) {
+        BellYards x = make.made();
+        due(what + ", the same answer", question.on(x), question.on(x));
+        unchanged(what, make, question, 0);
+    }
+
     private static void unchanged(String what, Make make, Call call, int firstGroup) {
         String[] untouched = UNTOUCHED.get(make);
         if (untouched == null) {
@@ -166,7 +173,8 @@ public class Edge {
     }
 
     private static void tellBells(BellYards x, StringBuilder all) {
-        for (int b = 0; b < x.count(2); b++) {
+        int bells = x.count(2);
+        for (int b = 0; b < bells; b++) {
             for (int what = 0; what <= 8; what++) {
                 add(all, x.about(b, what));
             }
@@ -174,12 +182,14 @@ public class Edge {
     }
 
     private static void tellTones(BellYards x, StringBuilder all) {
-        for (int b = 0; b < x.count(2); b++) {
+        int bells = x.count(2);
+        int parishes = x.count(1);
+        for (int b = 0; b < bells; b++) {
             for (int t = 0; t < 5; t++) {
                 add(all, x.tone(b, t, NONE));
             }
         }
-        for (int p = 0; p < x.count(1); p++) {
+        for (int p = 0; p < parishes; p++) {
             add(all, x.moved(p, 0));
         }
         for (int proof = 0; proof < 5; proof++) {
@@ -190,8 +200,9 @@ public class Edge {
     }
 
     private static void tellWeeks(BellYards x, StringBuilder all) {
+        int bells = x.count(2);
         int now = x.count(0);
-        for (int b = 0; b < x.count(2); b++) {
+        for (int b = 0; b < bells; b++) {
             add(all, x.was(b, now));
             for (int week = 0; week <= Math.min(now, 9); week++) {
                 add(all, x.was(b, week));
@@ -200,7 +211,8 @@ public class Edge {
     }
 
     private static void tellLetters(BellYards x, StringBuilder all) {
-        for (int b = 0; b < x.count(2); b++) {
+        int bells = x.count(2);
+        for (int b = 0; b < bells; b++) {
             for (int week : WEEKS) {
                 add(all, x.letter(b, week));
                 add(all, x.why(b, week));
@@ -209,8 +221,9 @@ public class Edge {
     }
 
     private static void tellParishes(BellYards x, StringBuilder all) {
+        int parishes = x.count(1);
         int now = x.count(0);
-        for (int p = 0; p < x.count(1); p++) {
+        for (int p = 0; p < parishes; p++) {
             add(all, x.kept(p, now));
             for (int week = 0; week <= Math.min(now, 9); week++) {
                 add(all, x.kept(p, week));
@@ -222,33 +235,39 @@ public class Edge {
     }
 
     private static void tellPeals(BellYards x, StringBuilder all) {
-        for (int p = 0; p < x.count(1); p++) {
+        int parishes = x.count(1);
+        int bells = x.count(2);
+        for (int p = 0; p < parishes; p++) {
             for (int what = 0; what <= 5; what++) {
                 add(all, x.peal(p, what));
             }
-            for (int b = 0; b < x.count(2); b++) {
+            for (int b = 0; b < bells; b++) {
                 add(all, x.step(p, b));
             }
         }
     }
 
     private static void tellUnnamed(BellYards x, StringBuilder all) {
-        for (int u = 0; u < x.count(5); u++) {
+        int unnamed = x.count(5);
+        int batches = x.count(6);
+        int bells = x.count(2);
+        for (int u = 0; u < unnamed; u++) {
             add(all, x.could(u));
             add(all, x.next(u));
             add(all, x.laid(u));
         }
-        for (int batch = 0; batch < x.count(6); batch++) {
+        for (int batch = 0; batch < batches; batch++) {
             add(all, x.sets(batch, 0));
             add(all, x.sets(batch, 1));
-            for (int b = 0; b < x.count(2); b++) {
+            for (int b = 0; b < bells; b++) {
                 add(all, x.held(batch, b));
             }
         }
     }
 
     private static void tellClaims(BellYards x, StringBuilder all) {
-        for (int b = 0; b < x.count(2); b++) {
+        int bells = x.count(2);
+        for (int b = 0; b < bells; b++) {
             for (int week : WEEKS) {
                 add(all, x.whose(b, week));
                 add(all, x.lands(b, week));
@@ -257,11 +276,12 @@ public class Edge {
     }
 
     private static void tellNeeds(BellYards x, StringBuilder all) {
+        int bells = x.count(2);
         for (int s = 0; s < 4; s++) {
             for (int what = 0; what <= 2; what++) {
                 add(all, x.shorts(s, what));
             }
-            for (int b = 0; b < x.count(2); b++) {
+            for (int b = 0; b < bells; b++) {
                 add(all, x.melts(s, b));
             }
         }
@@ -409,11 +429,15 @@ public class Edge {
         x.pass(7);
         for (int b = 13; b < 19; b++) {
             toYard(x, b);
+            x.tone(b, 0, 20 * (b - 13));
+            x.tone(b, 4, 1000 + 100 * b);
         }
+        x.tone(8, 4, 5000);
         for (int s = 0; s < 3; s++) {
             x.sheet(s, s, 60);
             x.put(s, s, 59, 100 + s);
         }
+        x.put(2, 2, 4, NONE);
         for (int u = 0; u < 8; u++) {
             x.find(2, 99, NONE, 0);
         }
